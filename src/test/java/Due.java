@@ -1,0 +1,40 @@
+/** Counts and prints the answers that are not as due; each test ends with end(). */
+final class Due {
+    private static int asked = 0, wrong = 0;
+
+    private Due() { }
+
+    static void is(String call, long got, long want) {
+        asked++;
+        if (got == want) return;
+        wrong++;
+        if (wrong <= 40) System.out.println(call + " answered " + got + ", due is " + want);
+    }
+
+    static void holds(String what, boolean so) {
+        is(what, so ? 1 : 0, 1);
+    }
+
+    /** Feeds a text to the tape, blanks behind it cut off again, without reading it. */
+    static void lay(ShyWell x, String text) {
+        int from = x.count(10);
+        for (int i = 0; i < text.length(); i += 12) x.feed(four(text, i), four(text, i + 4), four(text, i + 8));
+        x.trim(from + text.length());
+    }
+
+    static int text(ShyWell x, String text) {
+        lay(x, text);
+        return x.text();
+    }
+
+    private static int four(String text, int from) {
+        int v = 0;
+        for (int i = from; i < from + 4; i++) v = v << 8 | (i < text.length() ? text.charAt(i) & 255 : 32);
+        return v;
+    }
+
+    static void end() {
+        System.out.println(asked + " answers, " + wrong + " not as due");
+        if (wrong != 0) System.exit(1);
+    }
+}
