@@ -495,7 +495,8 @@ public final class ShyWell {
         private int kind, a, away, need, want;
         private int where, left, waited, since;
         private int got, empty, visits;
-        // Steps 3 and 4 of a minute ask where it was as the minute began, not where it has come to by then.
+        // Steps 3 and 4 of a minute ask where it was as the minute began, not where it has come to by then;
+        // each minute puts it anew, so it is nothing that is kept.
         private int began;
 
         private void start(int kind, int a, int away, int need) {
@@ -511,7 +512,6 @@ public final class ShyWell {
             got = 0;
             empty = 0;
             visits = 0;
-            began = HOME;
         }
 
         private void become(Comer other) {
@@ -527,7 +527,6 @@ public final class ShyWell {
             got = other.got;
             empty = other.empty;
             visits = other.visits;
-            began = other.began;
         }
 
         private int habit(int what) {
