@@ -369,9 +369,19 @@ public final class ShyWell {
     }
 
     public int check(int n) {
-        int answer = within(n, 1, 30) ? imageKept ? firstUntrue(n) : NO : BAD;
+        int told = waiting.size;
+        // None wait then, whatever is answered; their places keep what was told.
         waiting.size = 0;
-        return answer;
+        if (!within(n, 1, 30)) return BAD;
+        if (!imageKept) return NO;
+        thought.become(image);
+        int minutes = Math.min(n, LAST_MINUTE - thought.minute);
+        for (int i = 0; i < minutes; i++) {
+            thought.advance(1);
+            if (!wasTold(2 * i, told, thought.water)) return 2 * i + 1;
+            if (!wasTold(2 * i + 1, told, thought.standing())) return 2 * i + 2;
+        }
+        return told > 2 * minutes ? 2 * minutes + 1 : 0;
     }
 
     public int keep() {
@@ -455,19 +465,8 @@ public final class ShyWell {
         return within(slot, 0, slots.length - 1) ? slots[slot] : null;
     }
 
-    private int firstUntrue(int n) {
-        thought.become(image);
-        int minutes = Math.min(n, LAST_MINUTE - thought.minute);
-        for (int i = 0; i < minutes; i++) {
-            thought.advance(1);
-            if (!isTold(2 * i, thought.water)) return 2 * i + 1;
-            if (!isTold(2 * i + 1, thought.standing())) return 2 * i + 2;
-        }
-        return waiting.size > 2 * minutes ? 2 * minutes + 1 : 0;
-    }
-
-    private boolean isTold(int place, int v) {
-        return place < waiting.size && waiting.at(place) == v;
+    private boolean wasTold(int place, int told, int v) {
+        return place >= 0 && place < told && place < waiting.places.length && waiting.places[place] == v;
     }
 
     /** A row of ints that grows up to a bound; setting its size to less forgets what is behind. */
@@ -638,7 +637,8 @@ public final class ShyWell {
         }
 
         private Text lawOf(int key) {
-            return within(key, 0, KEYS - 1) ? lawAt(counting[key]) : null;
+            int text = key >= 0 && key < KEYS ? counting[key] : -1;
+            return text >= 0 && text < texts ? laws[text] : null;
         }
 
         private int standing() {
@@ -680,16 +680,13 @@ public final class ShyWell {
             }
         }
 
-        private int stayGives(Comer one) {
-            Text law = lawOf(STAY);
-            return law == null ? 0 : held(law.value(one.a, water, standing()), 0, 99);
-        }
-
         private int staysOf(Comer one) {
+            Text law = lawOf(STAY);
+            int asComer = law == null ? 0 : held(law.value(one.a, water, standing()), 0, 99);
             switch (one.kind) {
-                case WAITING: return stayGives(one) + one.a;
-                case STUBBORN: return 2 * (stayGives(one) + one.a);
-                default: return stayGives(one);
+                case WAITING: return asComer + one.a;
+                case STUBBORN: return 2 * (asComer + one.a);
+                default: return asComer;
             }
         }
 
