@@ -35,6 +35,8 @@ public final class EdgesSheetsTest {
         checkTheLastMinute();
         keepNoneAndAll();
         backAgainAndAgain();
+        backWholly();
+        begunAnew();
         outsideTheImage();
         countBounds();
         Due.end();
@@ -522,6 +524,51 @@ public final class EdgesSheetsTest {
         Due.is("there is room for a COMER", x.comer(0, 0, 1, 1), 1);
     }
 
+    /** All that can be told of COMERS and the well, once all of it has become something else. */
+    private static void backWholly() {
+        Due.sentence("All is as THE IMAGE: how many COMERS.");
+        ShyWell x = new ShyWell();
+        int[] wells = {20, 30, 1, 2, 3};
+        for (int i = 0; i < 5; i++) x.well(i, wells[i]);
+        Due.text(x, "leave t=a|t=30+a");
+        Due.text(x, "stay 6");
+        for (int i = 0; i < 4; i++) x.comer(new int[] {0, 2, 1, 5}[i], i, 1 + i, 9 - i);
+        x.run(35);
+        int[][] told = new int[4][15];
+        for (int c = 0; c < 4; c++) for (int what = 0; what < 15; what++) told[c][what] = x.told(c, what);
+        for (int what = 9; what < 12; what++) Due.holds("something came of it: " + what, told[0][what] + told[1][what] + told[2][what] + told[3][what] > 0);
+        int water = x.count(3), waits = x.count(5);
+        Due.holds("somebody waited", waits > 0);
+        x.keep();
+        x.run(300);
+        for (int i = 0; i < 5; i++) x.well(i, 9);
+        for (int c = 0; c < 4; c++) {
+            x.turns(c, 4);
+            for (int what = 1; what < 5; what++) x.set(c, what, 8);
+        }
+        Due.is("back()", x.back(), 4);
+        for (int c = 0; c < 4; c++) for (int what = 0; what < 15; what++) Due.is("told(" + c + ", " + what + ")", x.told(c, what), told[c][what]);
+        Due.is("WAITS", x.count(5), waits);
+        wells[2] = water;
+        for (int i = 0; i < 5; i++) Due.is("well(" + i + ", 5)", x.well(i, 5), wells[i]);
+    }
+
+    private static void begunAnew() {
+        Due.sentence("WHERE (0 HOME, at first; 1 OUT; 2 STANDS; 3 BACK), LEFT: minutes to go (0 at first), WAITED (0), SINCE (0), GOT, EMPTY, VISITS (0)");
+        for (int minutes = 1; minutes < 70; minutes += 3) {
+            ShyWell x = new ShyWell();
+            x.keep();
+            x.comer(2, 3, 4, 9);
+            x.well(2, 1);
+            Due.text(x, "leave s>2");
+            x.run(minutes);
+            x.back();
+            Due.is("COMER 0 again", x.comer(0, 1, 2, 3), 0);
+            int[] fresh = {0, 1, 2, 3, 3, 0, 0, 0, 0, 0, 0, 0};
+            for (int what = 0; what < 12; what++) Due.is("behind " + minutes + ": told(0, " + what + ")", x.told(0, what), fresh[what]);
+        }
+    }
+
     private static void outsideTheImage() {
         Due.sentence("AN IMAGE keeps all but SHEETS, SLOTS, numbers that wait, THE TAPE");
         ShyWell x = with(0, 4);
@@ -544,7 +591,7 @@ public final class EdgesSheetsTest {
     private static void countBounds() {
         Due.sentence("0 how many COMERS, 1 how many STAND, 2 THE MINUTE, 3 WATER, 4 QUIET, 5 WAITS, 6 GOT of all, 7 EMPTY of all, 8 how many TEXTS, 9 how many numbers wait, 10 bytes of THE TAPE, 11 z. BAD.");
         ShyWell x = new ShyWell();
-        for (int i = 0; i < 8; i++) x.comer(i < 2 ? 0 : 2, i < 2 ? i : 9, 1, 1);
+        for (int i = 0; i < 8; i++) x.comer(i < 2 ? 0 : 2, i < 2 ? 1 - i : 9, 1, 1);
         x.well(2, 1);
         x.well(0, 60);
         for (int i = 0; i < 14; i++) Due.text(x, "leave t=a");

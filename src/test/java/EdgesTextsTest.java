@@ -28,6 +28,7 @@ public final class EdgesTextsTest {
         truth();
         lastToldCounts();
         namedValues();
+        keysTold();
         pieces();
         Due.end();
     }
@@ -417,6 +418,7 @@ public final class EdgesTextsTest {
         x.comer(0, 0, 1, 0);
         Due.is("none", x.why(2), NONE);
         Due.text(x, "fine 11");
+        Due.is("TEXT 0", x.why(2), 0);
         Due.text(x, "leave 5");
         Due.is("the first", x.fine(0), 11);
         Due.text(x, "fine 22");
@@ -456,6 +458,17 @@ public final class EdgesTextsTest {
         Due.is("seven stand", y.told(0, 14), 7);
     }
 
+    private static void keysTold() {
+        Due.sentence("what 0 KEY (0 leave, 1 stay, 2 fine)");
+        ShyWell x = new ShyWell();
+        String[] texts = {"fine 5", "leave 5", "stay 5", "fine 5"};
+        int[] due = {2, 0, 1, 2};
+        for (String text : texts) Due.text(x, text);
+        for (int i = 0; i < 4; i++) Due.is("textTold(" + i + ", 0)", x.textTold(i, 0), due[i]);
+        for (int t : new int[] {-1, 4, 14}) Due.is("textTold(" + t + ", 0)", x.textTold(t, 0), BAD);
+        for (int w : new int[] {-1, 2}) Due.is("textTold(0, " + w + ")", x.textTold(0, w), BAD);
+    }
+
     private static void pieces() {
         Due.sentence("1 how many NUMBERS and NAMES it has.");
         String[] texts = {"fine 1", "fine g", "fine !(g)", "fine g+1", "fine (g*e)-(1|!g)/0004", "fine " + times("1+", 45) + "g"};
@@ -467,5 +480,9 @@ public final class EdgesTextsTest {
             Due.is("TEXT 1", x.textTold(1, 1), BAD);
             Due.is("TEXT -1", x.textTold(-1, 1), BAD);
         }
+        ShyWell x = new ShyWell();
+        Due.text(x, "fine 1+2+3+");
+        Due.text(x, "fine 1+2");
+        Due.is("those of a fault do not count", x.textTold(0, 1), 2);
     }
 }

@@ -500,6 +500,8 @@ public final class EdgesThoughtsTest {
         ShyWell x = withPlaces(0, 3, 13);
         x.well(1, 99);
         explained("1 only", x, 1, 0);
+        x.mark(0, 1, 8);
+        explained("2 only", x, 2, 0);
         ShyWell y = withPlaces(1, NONE, NONE, NONE, NONE, NONE, 3, 4);
         y.run(9);
         explained("60 only", y, 60, 0);

@@ -583,6 +583,15 @@ public final class EdgesWellTest {
         x.run(1);
         told("minute 2880", x, 0, WANT, 0);
         told("minute 2880", x, 1, WANT, 0);
+        for (int i = 0; i < 4; i++) x.run(300);
+        x.run(239);
+        for (int c = 2; c < 8; c++) x.comer(0, 30, 1, c);
+        for (int c = 0; c < 8; c++) {
+            x.set(c, 3, c + 1);
+            told("minute 4319", x, c, WANT, c < 2 ? 0 : c);
+        }
+        x.run(1);
+        for (int c = 0; c < 8; c++) told("minute 4320, each of eight", x, c, WANT, c + 1);
     }
 
     // ---- draws, and the calls that make them

@@ -52,10 +52,10 @@ public final class RefusalsTest {
         if (past == Past.NEW) return x;
         midst(x);
         if (past == Past.MIDST) return x;
-        while (x.count(0) < 8) x.comer(3, 9, 9, 9);
+        for (int i = 4; i < 8; i++) x.comer(3, 9, 9, 9);
         x.trim(0);
-        while (x.count(8) < 14) Due.text(x, "fine 3");
-        for (int i = x.count(9); i < 60; i++) x.tell(i);
+        for (int i = 2; i < 14; i++) Due.text(x, "fine 3");
+        for (int i = 4; i < 60; i++) x.tell(i);
         Due.lay(x, "fine 1" + " ".repeat(90));
         return x;
     }
