@@ -186,7 +186,8 @@ public final class ModelTest {
     }
 
     private void call(String name, Object... with) throws Exception {
-        if (parted) return;
+        // What an object answers behind its 512th call is free.
+        if (parted || calls.size() >= 512) return;
         calls.add(name + List.of(with));
         long got = answer(WELL.get(name), well, with);
         long due = answer(MODEL.get(name), model, with);

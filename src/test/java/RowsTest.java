@@ -112,7 +112,8 @@ public final class RowsTest {
             x.run(300);
             Due.is("back()", x.back(), 5);
             same("counts", counts(x), counts);
-            for (int c = 0; c < told.length; c++) same("comer " + c, told(x)[c], told[c]);
+            int[][] toldThen = told(x);
+            for (int c = 0; c < told.length; c++) same("comer " + c, toldThen[c], told[c]);
             for (int i : new int[] {0, 1, 3, 4}) Due.is("well(" + i + ")", x.well(i, 7), 7);
         }
         Due.is("comers of later are gone", x.told(5, 0), BAD);
